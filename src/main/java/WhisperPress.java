@@ -503,7 +503,7 @@ public final class WhisperPress {
     }
 
     /** A WHISPER is kept in one number, so that an ISSUE is one short row. */
-    private static int whisperOfThree(int from, int to, int secret) {
+    private static int packedWhisper(int from, int to, int secret) {
         return from | to << 4 | secret << 8;
     }
 
@@ -1032,7 +1032,7 @@ public final class WhisperPress {
                 to = nextTold(state, p, other);
                 misprints++;
             }
-            state.prints(slot, whisperOfThree(p, to, secret));
+            state.prints(slot, packedWhisper(p, to, secret));
         }
 
         private int choice(State state, Law law, int p) {
