@@ -17,6 +17,9 @@ public final class BoundsOfTextsTest {
         copyEnds();
         copyBeyond();
         firstBytesAlone();
+        lawCutAnywhere();
+        gossipCutAnywhere();
+        copyCutAnywhere();
         Due.end();
     }
 
@@ -145,5 +148,52 @@ public final class BoundsOfTextsTest {
         Due.due("two bytes of GOSSIP", 1, x.gossip(2));
         Due.feed(x, Due.bytesOf("r(1=1)x"));
         Due.due("six bytes of THE LAW", 1, x.law(6));
+    }
+
+    /** A LAW, cut behind each of its bytes: the bytes behind are not read, be they fed with it or before it. */
+    private static void lawCutAnywhere() {
+        String text = "e12345+[p*2]%k(!(1=1|b<3)&w>0);h10(12345=1);r(p=1)";
+        for (int n = 1; n <= text.length(); n++) {
+            int due = n == text.length() ? 3 : n == 30 ? 1 : n == 43 ? 2 : -1000 - n;
+            WhisperPress x = new WhisperPress();
+            Due.feed(x, Due.bytesOf(text));
+            Due.due("law(" + n + ") of " + text, due, x.law(n));
+            Due.feed(x, Due.bytesOf(text));
+            x.check(0);
+            Due.due("law(" + n + ") on bytes that were there", due, Due.law(x, text.substring(0, n)));
+        }
+    }
+
+    private static void gossipCutAnywhere() {
+        String text = "a+A;a>b;a=1234;b!;a-B";
+        int[] whole = {3, 1, 7, 2, 11, 3, 12, 3, 13, 3, 14, 3, 17, 4, 21, 5};
+        for (int n = 1; n <= text.length(); n++) {
+            int due = -1000 - n;
+            for (int i = 0; i < whole.length; i += 2) {
+                due = n == whole[i] ? whole[i + 1] : due;
+            }
+            WhisperPress x = new WhisperPress();
+            x.person(0, 0, false);
+            x.person(1, 0, false);
+            Due.feed(x, Due.bytesOf(text));
+            Due.due("gossip(" + n + ") of " + text, due, x.gossip(n));
+            int breath = n < 11 || due < 0 ? 0 : Integer.parseInt(text.substring(10, Math.min(n, 14)));
+            Due.due("BREATH by the first " + n, breath, x.personIs(0, 3));
+            Due.due("gossip(" + n + ") on bytes that were there", due, Due.gossip(x, text.substring(0, n)));
+        }
+    }
+
+    private static void copyCutAnywhere() {
+        String text = "abcdefghijkl_3bcd_4e_fghij";
+        int[] words = {1, 1, 1, 1, 1, 1, 1, 1, 1, 1, 1, 1, 0, 0, 4, 4, 4, 0, 0, 8, 0, 9, 9, 9, 9, 9};
+        int[] letters = {1, 2, 3, 4, 5, 6, 7, 8, 9, 10, 11, 12, 0, 0, 15, 18, 21, 0, 0, 25, 0, 26, 27, 28, 29, 30};
+        for (int n = 1; n <= text.length(); n++) {
+            int due = words[n - 1] == 0 ? -1000 - n : words[n - 1];
+            WhisperPress x = new WhisperPress();
+            Due.feed(x, Due.bytesOf(text));
+            Due.due("copy(" + n + ") of " + text, due, x.copy(n));
+            Due.due("letters of the first " + n, letters[n - 1], x.copyIs(0));
+            Due.due("copy(" + n + ") on bytes that were there", due, Due.copy(x, text.substring(0, n)));
+        }
     }
 }

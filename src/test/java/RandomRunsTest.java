@@ -3,11 +3,15 @@ import java.util.Random;
 /** Runs of drawn calls, each answer held against the Model; the draws are the same each time. */
 public final class RandomRunsTest {
     private static final String LETTERS = "pknoubdwc";
+    /** An object is used for so many calls; one step of a run makes a part of them, counts() at the end some more. */
+    private static final int MOST_CALLS = 512;
+    private static final int MOST_AT_ONCE = 40;
 
     private final Random random;
     private final WhisperPress x = new WhisperPress();
     private final Model model = new Model();
     private final int run;
+    private int asked = 0;
 
     private RandomRunsTest(int run) {
         this.run = run;
@@ -15,7 +19,7 @@ public final class RandomRunsTest {
     }
 
     public static void main(String[] args) {
-        int runs = args.length > 0 ? Integer.parseInt(args[0]) : 100;
+        int runs = args.length > 0 ? Integer.parseInt(args[0]) : 200;
         int from = args.length > 1 ? Integer.parseInt(args[1]) : 0;
         for (int run = from; run < from + runs; run++) {
             RandomRunsTest one = new RandomRunsTest(run);
@@ -24,11 +28,12 @@ public final class RandomRunsTest {
                 one.person();
             }
             one.law();
-            int calls = 20 + one.below(300);
-            for (int i = 0; i < calls; i++) {
+            int calls = 20 + one.below(MOST_CALLS);
+            while (one.asked < Math.min(calls, MOST_CALLS - MOST_AT_ONCE)) {
                 one.call();
             }
             one.counts();
+            Due.due("no more calls than an object is used for", true, one.asked <= MOST_CALLS);
         }
         Due.end();
     }
@@ -51,6 +56,7 @@ public final class RandomRunsTest {
     }
 
     private void due(String call, long want, long got) {
+        asked++;
         Due.due("run " + run + ": " + call, want, got);
     }
 
