@@ -190,7 +190,8 @@ public final class BoundsOfDeskTest {
         Due.due("a duty of 0", 0, duty(9999, 255, 0));
         Due.due("six bounds", 10 * 6, duty(9999, 1, 1, 2, 1, 3, 1, 4, 1, 5, 1, 6, 1));
         Due.due("six bounds, the last alone", 10 * 9, duty(9999, 1, 0, 2, 0, 3, 0, 4, 0, 5, 0, 6, 9));
-        Due.due("six bounds, high ones", 2550 * 255, duty(9999, 250, 255, 251, 255, 252, 255, 253, 255, 254, 255, 255, 255));
+        int[] high = {250, 255, 251, 255, 252, 255, 253, 255, 254, 255, 255, 255};
+        Due.due("six bounds, high ones", 2550 * 255, duty(9999, high));
     }
 
     private static void dutyOfAll() {

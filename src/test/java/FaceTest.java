@@ -25,13 +25,16 @@ public final class FaceTest {
 
     private static final String[] RULED_OUT = {
         "throw", "throws", "try", "catch", "synchronized", "assert", "import", "package", "->", "::",
-        "Object", "String\\.format", "System\\.out", "protected", "hashCode", "toString",
+        "Object", "String\\.format", "System\\.out", "protected", "hashCode", "toString", "while", "do", "List",
+        "double", "float", "Exact", "instanceof", "Throwable", "Exception", "interface", "enum", "record",
     };
 
     public static void main(String[] args) throws Exception {
         members();
         classesInside();
         words();
+        lengths();
+        objectsAreMadeWithThePress();
         Due.end();
     }
 
@@ -76,6 +79,9 @@ public final class FaceTest {
                 boolean isConstant = !Modifier.isStatic(f.getModifiers()) || Modifier.isFinal(f.getModifiers());
                 Due.due(f + " no static state", true, isConstant);
             }
+            Field[] all = c.getDeclaredFields();
+            long fields = Arrays.stream(all).filter(f -> !Modifier.isStatic(f.getModifiers())).count();
+            Due.due(c + " some twenty fields at the most", true, fields <= 20);
             for (Method m : c.getDeclaredMethods()) {
                 boolean bearsName = Arrays.stream(FACE).anyMatch(f -> f.contains(" " + m.getName() + "("));
                 Due.due(m + " bears a public name", false, bearsName);
@@ -84,9 +90,46 @@ public final class FaceTest {
         }
     }
 
+    private static String source() throws Exception {
+        return Files.readString(Path.of("src/main/java/WhisperPress.java"));
+    }
+
+    private static String code() throws Exception {
+        return source().replaceAll("(?s)/\\*.*?\\*/", "").replaceAll("//[^\n]*", "");
+    }
+
+    /** A method begins with a line that ends in ") {" and is not within one, and ends with a } as far in. */
+    private static void lengths() throws Exception {
+        int from = -1;
+        String end = "";
+        String[] lines = source().split("\n");
+        for (int i = 0; i < lines.length; i++) {
+            Matcher m = Pattern.compile("(    |        )[a-zA-Z][^=;]*\\) \\{").matcher(lines[i]);
+            if (from < 0 && m.matches()) {
+                from = i;
+                end = m.group(1) + "}";
+            } else if (from >= 0 && lines[i].equals(end)) {
+                Due.due("lines of " + lines[from].trim(), true, i - from < 60);
+                from = -1;
+            }
+            Due.due("signs of line " + i, true, lines[i].chars().allMatch(c -> c >= 32 && c < 127));
+        }
+        Due.due("each method ends", -1, from);
+    }
+
+    /** new stands in the constructor and where a field is told, nowhere else. */
+    private static void objectsAreMadeWithThePress() throws Exception {
+        for (String line : code().split("\n")) {
+            if (line.matches(".*\\bnew\\b.*")) {
+                boolean isField = line.matches("        (final )?(int\\[\\]|Law) \\w+ = new .*;");
+                boolean isInConstructor = line.matches("        \\w+ = new \\w+\\(\\);");
+                Due.due(line.trim(), true, isField || isInConstructor);
+            }
+        }
+    }
+
     private static void words() throws Exception {
-        String source = Files.readString(Path.of("src/main/java/WhisperPress.java"));
-        String code = source.replaceAll("(?s)/\\*.*?\\*/", "").replaceAll("//[^\n]*", "");
+        String code = code();
         for (String word : RULED_OUT) {
             String pattern = word.matches("\\w.*") ? "\\b" + word + "\\b" : word;
             Matcher m = Pattern.compile(pattern).matcher(code);

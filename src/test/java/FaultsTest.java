@@ -243,7 +243,7 @@ public final class FaultsTest {
         copy("a_".repeat(60) + "b", -4120);
     }
 
-    /** "asked when it ends": what is wrong within the WORD goes ahead of more than 60, what comes behind it does not. */
+    /** "asked when it ends": what is wrong within the WORD goes ahead of more than 60, what is behind it does not. */
     private static void copyWhichFirst() {
         copy(SIXTY + "_bcdefghijklmn", -2033);
         copy(SIXTY + "_2bcdefghijklmn", -2034);

@@ -66,7 +66,8 @@ public final class LikeOnesTest {
         Due.due("the first of two h", 0, press("e1(1=1);h0(1=1);h10(1=1)", 1, 0).tried(1, 0));
         Due.due("the first of two h that hold", 1, press("e1(1=1);h0(1=2);h10(1=1);h0(1=1)", 1, 0).tried(1, 0));
         Due.due("the first of two m", 0, press("e1(1=1);h10(1=1);m0(1=1);m10(1=1)", 1, 0).tried(1, 1));
-        Due.due("the first of two m that hold", 1, press("e1(1=1);h10(1=1);m0(1=2);m10(1=1);m0(1=1)", 1, 0).tried(1, 1));
+        WhisperPress y = press("e1(1=1);h10(1=1);m0(1=2);m10(1=1);m0(1=1)", 1, 0);
+        Due.due("the first of two m that hold", 1, y.tried(1, 1));
     }
 
     /** a and d do as well as b and c; 6 is less than 9. */
